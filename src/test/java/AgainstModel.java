@@ -35,7 +35,7 @@ public final class AgainstModel {
     }
 
     public static void main(String[] args) {
-        int rounds = args.length > 0 ? Integer.parseInt(args[0]) : 300;
+        int rounds = args.length > 0 ? Integer.parseInt(args[0]) : 1200;
         int begin = args.length > 1 ? Integer.parseInt(args[1]) : 0;
         for (int i = begin; i < begin + rounds && wrong < 20; i++) {
             seed = i * 7919L + 17;
@@ -318,9 +318,17 @@ public final class AgainstModel {
     }
 
     private static void book() {
-        int spots = 1 + pick(5), agents = 1 + pick(5);
-        town(spots, spots + pick(3), agents, pick(3) == 0 ? 9 : 4);
-        for (int i = 0; i < 5; i++) {
+        boolean full = pick(12) == 0;
+        int spots = full ? 10 : 1 + pick(5), agents = full ? 8 : 1 + pick(5);
+        if (full) {
+            town(10, 0, 0, 1);
+            while (m.ways.size() < 24) drawWay();
+            while (m.agents.size() < 8) same("agent(0,0)", x.agent(0, 0), m.agent(0, 0));
+        } else {
+            town(spots, spots + pick(3), agents, pick(3) == 0 ? 9 : 4);
+        }
+        if (pick(3) == 0) drawRow();
+        for (int i = 0; i < (full ? 2 : 5); i++) {
             for (int k = pick(12); k >= 0; k--) drawPost();
             for (int k = pick(4); k >= 0; k--) drawSight();
             if (pick(3) == 0) drawStrike();
@@ -329,6 +337,29 @@ public final class AgainstModel {
             for (int k = 0; k < 12; k++) askBook();
         }
         same("count(4)", x.count(4), m.count(4));
+    }
+
+    private static void drawWay() {
+        int a = pick(10), b = pick(10), l = 1 + pick(9);
+        same("way(" + a + "," + b + "," + l + ")", x.way(a, b, l), m.way(a, b, l));
+    }
+
+    /** Sights along a row that an agent may have gone, so that little is left of where it can be. */
+    private static void drawRow() {
+        for (int a = 0; a < m.agents.size(); a++) {
+            int spot = pick(m.spots), tick = pick(40);
+            for (int k = 0; k < 14 && tick < 96; k++) {
+                same("sight(" + a + "," + spot + "," + tick + ")", x.sight(a, spot, tick), m.sight(a, spot, tick));
+                tick++;
+                for (int[] w : m.ways) {
+                    if (w[0] == spot && pick(4) == 0) {
+                        spot = w[1];
+                        tick += w[2] - 1;
+                        break;
+                    }
+                }
+            }
+        }
     }
 
     private static void askBook() {
@@ -359,7 +390,7 @@ public final class AgainstModel {
                 same("struck(" + f + "," + n + ")", x.struck(f, n), m.struck(f, n));
                 break;
             default:
-                int suspects = near(1 << agents), words = near(4);
+                int suspects = agents == 8 ? 1 << pick(8) | 1 << pick(8) | 1 << pick(8) : near(1 << agents), words = near(4);
                 same("fed(" + suspects + "," + words + "," + t + "," + by + tail, x.fed(suspects, words, t, by, drops, n),
                         m.fed(suspects, words, t, by, drops, n));
                 for (int i = -1; i <= agents; i++) same("word(" + i + ")", x.word(i), m.word(i));

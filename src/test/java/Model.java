@@ -656,6 +656,8 @@ final class Model {
     }
 
     // ---- Rows: a stand is a spot, or a way, its end and how many ticks are left ----
+    private static final int STANDS = 2600;
+
     private static int onWay(int way, int end, int left) {
         return 100 + way * 100 + end * 10 + left;
     }
@@ -687,26 +689,39 @@ final class Model {
         return seen || stand >= 100 || !isWatched(stand, t, n);
     }
 
+    private final Map<String, List<List<Integer>>> reckoned = new HashMap<>();
+
     /** For each tick the stands that are in some row. */
     List<List<Integer>> stands(int a, int n) {
+        String key = a + " " + n + " " + spots + " " + ways.size();
+        if (!reckoned.containsKey(key)) reckoned.put(key, reckonStands(a, n));
+        return reckoned.get(key);
+    }
+
+    private List<List<Integer>> reckonStands(int a, int n) {
         List<List<Integer>> forth = new ArrayList<>();
         List<Integer> now = new ArrayList<>();
         for (int s = 0; s < spots; s++) if (mayStand(a, 0, s, n)) now.add(s);
         forth.add(now);
         for (int t = 1; t < 96; t++) {
             List<Integer> then = new ArrayList<>();
+            boolean[] taken = new boolean[STANDS];
             for (int stand : now) {
-                for (int on : onFrom(stand)) if (!then.contains(on) && mayStand(a, t, on, n)) then.add(on);
+                for (int on : onFrom(stand)) {
+                    if (!taken[on] && mayStand(a, t, on, n)) then.add(on);
+                    taken[on] = true;
+                }
             }
             forth.add(then);
             now = then;
         }
         for (int t = 94; t >= 0; t--) {
-            List<Integer> after = forth.get(t + 1);
+            boolean[] after = new boolean[STANDS];
+            for (int stand : forth.get(t + 1)) after[stand] = true;
             List<Integer> kept = new ArrayList<>();
             for (int stand : forth.get(t)) {
                 boolean goesOn = false;
-                for (int on : onFrom(stand)) goesOn |= after.contains(on);
+                for (int on : onFrom(stand)) goesOn |= after[on];
                 if (goesOn) kept.add(stand);
             }
             forth.set(t, kept);
@@ -731,22 +746,25 @@ final class Model {
         boolean[][][] has = new boolean[agents.size()][96][];
         for (int a = 0; a < agents.size(); a++) {
             can.add(stands(a, n));
-            for (int u = 0; u < 96; u++) has[a][u] = new boolean[2600];
+            for (int u = 0; u < 96; u++) has[a][u] = new boolean[STANDS];
         }
         boolean fresh = true;
         while (fresh) {
             fresh = false;
             for (int a = 0; a < agents.size(); a++) {
                 for (int u = t; u < 96; u++) {
+                    for (int before : u > t ? can.get(a).get(u - 1) : new ArrayList<Integer>()) {
+                        if (!has[a][u - 1][before]) continue;
+                        for (int on : onFrom(before)) {
+                            if (has[a][u][on] || !can.get(a).get(u).contains(on)) continue;
+                            has[a][u][on] = true;
+                            fresh = true;
+                        }
+                    }
                     for (int stand : can.get(a).get(u)) {
                         if (has[a][u][stand]) continue;
                         boolean gets = stand < 10 && (set & 1 << a) != 0;
                         if (stand < 10 && !gets) gets = isThere(has, stand, u, drops ? t : u);
-                        if (u > t && !gets) {
-                            for (int before : can.get(a).get(u - 1)) {
-                                gets |= has[a][u - 1][before] && onFrom(before).contains(stand);
-                            }
-                        }
                         if (gets) {
                             has[a][u][stand] = true;
                             fresh = true;

@@ -338,6 +338,13 @@ public final class Promises {
         x.run(0);
         due("where", x.where(0, 1), 0);
         due("give", x.give(0, 0), false);
+        // Text after text, long ones too: each finds the room of a first one.
+        for (int i = 0; i < 4; i++) due("read", read(x, "code z " + times("go 1;", 160) + "end"), 0);
+        due("read", read(x, "code zz wait 1; end code z do zz; go 1; end"), 0);
+        x.give(0, 1);
+        x.run(0);
+        due("where", x.where(0, 1), 0);
+        due("where", x.where(0, 2), 1);
         // A code told anew is not done by whom had the old one.
         read(x, "code a go 1; end");
         x.run(0);
@@ -753,6 +760,13 @@ public final class Promises {
         due("left", x.left(0), 8 + (1 << 11));
         due("has", x.has(0, 6), 1);
         due("has", x.has(0, 7), 0);
+        promise = 19;
+        x = play(line(1, 1), new int[] {0, 0}, new int[] {64, 0}, "code a write 6; leave 6; end code b take 6; take 6; end");
+        due("has", x.has(1, 6), 1);
+        due("has", x.has(1, 0), 0);
+        due("has", x.has(0, 6), 0);
+        due("knows", x.knows(1, 6), 0);
+        due("chain", x.chain(1, 6, 1), 0);
         promise = 18;
         // One that took its own paper learned nothing by it.
         x = alone("write 0; leave 0; take 0;");
@@ -838,7 +852,15 @@ public final class Promises {
         due("falls", x.falls(3), 5);
         due("falls", x.falls(0), -1);
         due("falls", x.falls(4), -1);
+        x = play(line(1, 1), new int[] {0, 0}, new int[] {0, 0}, "code a meet 1 for 9 end end code b meet 0 for 9 end end");
+        due("falls", x.falls(1), 2);
+        x = play(line(1, 1), new int[] {0, 0, 0}, new int[] {0, 0, 0},
+                "code a meet 2 for 9 end end code b meet 2 for 9 end end code c meet 0 for 9 end meet 1 for 9 end end");
+        due("falls", x.falls(1), 3);
         promise = 27;
+        due("fallen", x.fallen(1), 4);
+        x = play(line(1, 1), new int[] {0, 0, 0, 0, 0}, new int[] {0, 0, 0, 0, 0},
+                "code a end code b meet 2 for 9 end end code c meet 1 for 9 end meet 3 for 9 end end code d meet 2 for 9 end end code e end");
         due("fallen", x.fallen(1), 4);
         due("fallen", x.fallen(2), 1 + 4);
         due("fallen", x.fallen(3), 1 + 4 + 16);
@@ -1021,15 +1043,62 @@ public final class Promises {
         due("since", x.since(1, 1, 5, true, n), 6);
         due("since", x.since(1, 1, 6, true, n), -1);
         due("since", x.since(1, 1, 0, true, n), 0);
+        staying();
         promise = 31;
         due("could", x.could(1, 5, 95, false, n), 1);
         due("could", x.could(1, 5, 5, true, n), 1);
         due("could", x.could(1, 5, 6, true, n), 3);
     }
 
+    /** Agent 1 gets it at a spot in tick 20, stays, and agent 2 comes by later; agent 0 is gone by then. */
+    private static void staying() {
+        HushNet x = line(3, 1);
+        for (int i = 0; i < 3; i++) x.agent(0, 0);
+        x.post(0, 0, 0, 96);
+        x.post(1, 2, 0, 96);
+        for (int t = 10; t < 30; t++) {
+            x.sight(0, t == 20 ? 1 : 0, t);
+            x.sight(2, t == 25 ? 1 : 2, t);
+        }
+        int n = x.count(4);
+        promise = 32;
+        due("since", x.since(0, 1, 11, false, n), 11);
+        due("since", x.since(1, 1, 11, false, n), 20);
+        due("since", x.since(2, 1, 11, false, n), 25);
+        due("since", x.since(2, 1, 21, false, n), 30);
+        due("since", x.since(0, 4, 21, false, n), 30);
+        due("since", x.since(1, 4, 21, false, n), 25);
+        // One that gets it in the tick ahead of the last one has it in the last one.
+        x = line(2, 1);
+        for (int i = 0; i < 3; i++) x.agent(0, 0);
+        x.sight(0, 0, 94);
+        x.sight(0, 1, 95);
+        x.sight(1, 0, 94);
+        x.sight(1, 0, 95);
+        x.sight(2, 1, 94);
+        x.sight(2, 0, 95);
+        n = x.count(4);
+        due("since", x.since(2, 1, 94, false, n), 95);
+        x.strike(4);
+        x.sight(2, 1, 93);
+        due("since", x.since(2, 1, 94, false, n + 2), 94);
+    }
+
     private static void touchedOnes() {
         promise = 33;
-        HushNet x = hunted();
+        HushNet x = line(2, 1);
+        x.agent(0, 0);
+        x.agent(0, 0);
+        x.turned(0, 0);
+        x.sight(0, 0, 0);
+        x.sight(0, 1, 1);
+        x.sight(1, 0, 0);
+        for (int t = 1; t < 70; t++) x.sight(1, 0, t);
+        x.post(0, 0, 1, 96);
+        x.post(1, 1, 60, 96);
+        x.sight(0, 1, 95);
+        due("touched", x.touched(0, 1), 2);
+        x = hunted();
         int n = x.count(4);
         due("touched", x.touched(0, n), -1);
         x.turned(0, 14);
