@@ -1293,9 +1293,10 @@ public final class HushNet {
             for (int i = 0; i < count; i++) {
                 agents[i].enter(program.firstStep(agents[i].code));
             }
-            for (tick = 0; tick < TICKS; tick++) {
+            for (int t = 0; t < TICKS; t++) {
+                tick = t;
                 for (int i = 0; i < count; i++) {
-                    agents[i].stand(tick);
+                    agents[i].stand(t);
                     see(i);
                 }
                 for (int i = 0; i < count; i++) {

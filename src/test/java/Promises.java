@@ -539,6 +539,20 @@ public final class Promises {
         promise = 22;
         due("ended", x.ended(1), -1);
         due("ended", x.ended(-1), -1);
+        // As deep as can be: eight codes within one another, six loops within each.
+        StringBuilder deep = new StringBuilder();
+        for (int i = 0; i < 8; i++) {
+            deep.append("code ").append((char) ('a' + i)).append(times(" loop 1", 6));
+            deep.append(i == 0 ? " mark 2;" : " do " + (char) ('a' + i - 1) + ";").append(times(" end", 7)).append(' ');
+        }
+        x = line(1, 1);
+        x.agent(0, 0);
+        due("read", read(x, deep.toString()), 0);
+        x.give(0, 7);
+        x.run(0);
+        due("deeds", x.deeds(0), 56);
+        due("ended", x.ended(0), 1);
+        due("left", x.left(0), 4);
         // abort ends all of the code, from within another one, too.
         x = play(line(2, 1), new int[] {0, 0}, new int[] {0, 0}, "code b loop 5 wait 3; abort; end end code a do b; mark 1; end");
         due("ended", x.ended(1), 3);
@@ -858,7 +872,12 @@ public final class Promises {
                 "code a meet 2 for 9 end end code b meet 2 for 9 end end code c meet 0 for 9 end meet 1 for 9 end end");
         due("falls", x.falls(1), 3);
         promise = 27;
-        due("fallen", x.fallen(1), 4);
+        // In a ring 0 4 1 6 3 7 2 5 six fall by {1, 2} and by {0, 3}, five by {0, 1} and by {0, 2}.
+        int[] none = new int[8];
+        x = play(line(1, 1), none, none, ringText());
+        due("met", x.met(5, 0), 14);
+        due("falls", x.falls(2), 6);
+        due("fallen", x.fallen(2), 1 + 8);
         x = play(line(1, 1), new int[] {0, 0, 0, 0, 0}, new int[] {0, 0, 0, 0, 0},
                 "code a end code b meet 2 for 9 end end code c meet 1 for 9 end meet 3 for 9 end end code d meet 2 for 9 end end code e end");
         due("fallen", x.fallen(1), 4);
@@ -877,6 +896,19 @@ public final class Promises {
                 "code a meet 1 for 9 end end code b meet 0 for 9 end end code c meet 3 for 9 end end code d meet 2 for 9 end end");
         due("falls", x.falls(2), 4);
         due("fallen", x.fallen(2), 1 + 4);
+    }
+
+    private static String ringText() {
+        int[] ring = {0, 4, 1, 6, 3, 7, 2, 5, 0};
+        String[] deeds = {"", "", "", "", "", "", "", ""};
+        for (int i = 0; i < 8; i++) {
+            int a = ring[i], b = ring[i + 1];
+            deeds[a] += " till " + 2 * i + "; meet " + b + " for 1 end ";
+            deeds[b] += " till " + 2 * i + "; meet " + a + " for 1 end ";
+        }
+        StringBuilder text = new StringBuilder();
+        for (int i = 0; i < 8; i++) text.append("code ").append((char) ('a' + i)).append(' ').append(deeds[i]).append(" end ");
+        return text.toString();
     }
 
     private static void struckOnes() {
@@ -1089,15 +1121,15 @@ public final class Promises {
         HushNet x = line(2, 1);
         x.agent(0, 0);
         x.agent(0, 0);
-        x.turned(0, 0);
+        x.turned(0, 1);
+        x.post(0, 1, 0, 96);
         x.sight(0, 0, 0);
-        x.sight(0, 1, 1);
-        x.sight(1, 0, 0);
-        for (int t = 1; t < 70; t++) x.sight(1, 0, t);
-        x.post(0, 0, 1, 96);
-        x.post(1, 1, 60, 96);
-        x.sight(0, 1, 95);
-        due("touched", x.touched(0, 1), 2);
+        for (int t = 1; t < 96; t++) x.sight(0, 1, t);
+        int all = x.count(4);
+        due("touched", x.touched(0, all), 0);
+        x.turned(0, 0);
+        due("touched", x.touched(0, all), 0);
+        due("touched", x.touched(0, all + 1), 2);
         x = hunted();
         int n = x.count(4);
         due("touched", x.touched(0, n), -1);
