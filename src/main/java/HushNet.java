@@ -228,21 +228,21 @@ public final class HushNet {
     }
 
     public int where(int agent, int tick) {
-        if (!latest.happened || !isAgent(agent) || !isTick(tick)) {
+        if (!hadAgent(agent) || !isTick(tick)) {
             return NONE;
         }
         return agents[agent].places[tick];
     }
 
     public int knows(int agent, int secret) {
-        if (!latest.happened || !isAgent(agent) || !isSecret(secret)) {
+        if (!hadAgent(agent) || !isSecret(secret)) {
             return NONE;
         }
         return agents[agent].knownFrom[secret];
     }
 
     public int chain(int agent, int secret, int i) {
-        if (!latest.happened || !isAgent(agent) || !isSecret(secret) || i < 0) {
+        if (!hadAgent(agent) || !isSecret(secret) || i < 0) {
             return NONE;
         }
         if (agents[agent].knownFrom[secret] == NONE) {
@@ -250,13 +250,13 @@ public final class HushNet {
         }
         int link = agent;
         for (int k = 0; k < i && link != NONE; k++) {
-            link = isAgent(link) ? agents[link].teacher[secret] : NONE;
+            link = hadAgent(link) ? agents[link].teacher[secret] : NONE;
         }
         return link;
     }
 
     public int has(int agent, int secret) {
-        if (!latest.happened || !isAgent(agent) || !isSecret(secret)) {
+        if (!hadAgent(agent) || !isSecret(secret)) {
             return NONE;
         }
         return agents[agent].papers >> secret & 1;
@@ -270,21 +270,21 @@ public final class HushNet {
     }
 
     public int met(int one, int other) {
-        if (!latest.happened || !isAgent(one) || !isAgent(other) || one == other) {
+        if (!hadAgent(one) || !hadAgent(other) || one == other) {
             return NONE;
         }
         return latest.firstMet[one][other];
     }
 
     public int ended(int agent) {
-        if (!latest.happened || !isAgent(agent)) {
+        if (!hadAgent(agent)) {
             return NONE;
         }
         return agents[agent].endTick;
     }
 
     public int deeds(int agent) {
-        if (!latest.happened || !isAgent(agent)) {
+        if (!hadAgent(agent)) {
             return NONE;
         }
         return agents[agent].deedCount;
@@ -305,7 +305,7 @@ public final class HushNet {
         if (!latest.happened || k < 1 || k > MOST_TAKEN) {
             return NONE;
         }
-        return Integer.bitCount(latest.whoFalls(worstTaken(k), agentCount));
+        return Integer.bitCount(latest.whoFalls(worstTaken(k)));
     }
 
     public int fallen(int k) {
@@ -423,6 +423,11 @@ public final class HushNet {
         return agent >= 0 && agent < agentCount && agent < MOST_AGENTS;
     }
 
+    /** Whether the latest run had an agent: none if nothing was run, none that came later. */
+    private boolean hadAgent(int agent) {
+        return isAgent(agent) && latest.had(agent);
+    }
+
     private boolean isSet(int set) {
         return set >= 0 && set < 1 << agentCount;
     }
@@ -446,14 +451,14 @@ public final class HushNet {
         }
     }
 
-    /** The first of the sets of k agents (of all, if there are fewer) by which most fall. */
+    /** The first of the sets of k agents of the latest run (of all, if it had fewer) by which most fall. */
     private int worstTaken(int k) {
-        int taken = Math.min(k, agentCount);
+        int taken = Math.min(k, latest.agentsHad);
         int worst = 0;
         int most = -1;
-        for (int set = 0; set < 1 << agentCount; set++) {
+        for (int set = 0; set < 1 << latest.agentsHad; set++) {
             if (Integer.bitCount(set) == taken) {
-                int falling = Integer.bitCount(latest.whoFalls(set, agentCount));
+                int falling = Integer.bitCount(latest.whoFalls(set));
                 if (falling > most || falling == most && isAhead(set, worst)) {
                     worst = set;
                     most = falling;
@@ -1264,6 +1269,7 @@ public final class HushNet {
         static final int MOST_ENDS = 1000;
 
         boolean happened;
+        int agentsHad;
         final int[] marks = new int[MOST_SPOTS];
         final int[] papers = new int[MOST_SPOTS];
         final int[][] firstMet = new int[MOST_AGENTS][MOST_AGENTS];
@@ -1287,9 +1293,10 @@ public final class HushNet {
 
         /** A run by the posts that the book was looked at for: how often a secret was learned. */
         int perform(int agentCount) {
+            int count = Math.min(agentCount, Math.min(MOST_AGENTS, agents.length));
             happened = true;
+            agentsHad = count;
             clear();
-            int count = Math.min(agentCount, agents.length);
             for (int i = 0; i < count; i++) {
                 agents[i].enter(program.firstStep(agents[i].code));
             }
@@ -1608,11 +1615,16 @@ public final class HushNet {
             }
         }
 
+        /** Whether this run had an agent. */
+        boolean had(int agent) {
+            return agent >= 0 && agent < agentsHad;
+        }
+
         /** Who falls if a set is taken (bits): these, and all whom one of these met. */
-        int whoFalls(int taken, int agentCount) {
+        int whoFalls(int taken) {
             int falling = taken;
-            for (int i = 0; i < agentCount && i < MOST_AGENTS; i++) {
-                for (int j = 0; j < agentCount && j < MOST_AGENTS; j++) {
+            for (int i = 0; i < agentsHad && i < MOST_AGENTS; i++) {
+                for (int j = 0; j < agentsHad && j < MOST_AGENTS; j++) {
                     if ((taken >> i & 1) != 0 && firstMet[i][j] != NONE) {
                         falling |= 1 << j;
                     }

@@ -47,6 +47,13 @@ public final class AgainstModel {
             if (i % 3 == 0) texts();
             else if (i % 3 == 1) runs();
             else book();
+            if (wrong == 0) {
+                x = new HushNet();
+                m = new Model();
+                calls = 0;
+                log = new StringBuilder("sprouts of round " + i + "\n");
+                sprouts();
+            }
         }
         System.out.println("AgainstModel: " + checks + " answers, " + wrong + " wrong");
         if (wrong != 0) System.exit(1);
@@ -240,9 +247,28 @@ public final class AgainstModel {
             same("run(" + n + ")", x.run(n), m.run(n));
             askRun(30);
         }
-        same("agent(0, 3)", x.agent(0, 3), m.agent(0, 3));
-        same("spot()", x.spot(), m.spot());
-        askRun(12);
+        growth();
+    }
+
+    /** Agents and spots come behind the latest run, and another run among them. */
+    private static void growth() {
+        for (int i = 0; i < 6 && calls < 440; i++) {
+            int s = near(m.spots), k = near(256);
+            if (pick(3) > 0) same("agent(" + s + "," + k + ")", x.agent(s, k), m.agent(s, k));
+            if (pick(3) == 0) same("spot()", x.spot(), m.spot());
+            if (pick(4) == 0) same("run(0)", x.run(0), m.run(0));
+            askRun(6);
+        }
+    }
+
+    /** Runs ahead of all else. */
+    private static void sprouts() {
+        for (int i = pick(3); i > 0; i--) same("spot()", x.spot(), m.spot());
+        if (pick(2) == 0) same("agent(0,1)", x.agent(0, 1), m.agent(0, 1));
+        askRun(4);
+        same("run(0)", x.run(0), m.run(0));
+        askRun(4);
+        growth();
     }
 
     private static void askRun(int times) {

@@ -549,8 +549,8 @@ final class Model {
     }
 
     int has(int a, int s) {
-        if (walkers == null || !isAgent(a) || !isSecret(s)) return NONE;
-        return a < walkers.size() && walkers.get(a).papers[s] ? 1 : 0;
+        if (walkers == null || !isSecret(s) || a < 0 || a >= walkers.size()) return NONE;
+        return walkers.get(a).papers[s] ? 1 : 0;
     }
 
     int left(int s) {
@@ -570,8 +570,7 @@ final class Model {
     }
 
     int deeds(int a) {
-        if (walkers == null || !isAgent(a)) return NONE;
-        return a < walkers.size() ? walkers.get(a).deeds : 0;
+        return walkers == null || a < 0 || a >= walkers.size() ? NONE : walkers.get(a).deeds;
     }
 
     int saws() {
@@ -587,7 +586,7 @@ final class Model {
     int[] worst(int k) {
         if (walkers == null || k < 1 || k > 3) return new int[] {NONE, NONE};
         int[] best = {NONE, NONE};
-        tryTaken(Math.min(k, agents.size()), 0, 0, best);
+        tryTaken(Math.min(k, walkers.size()), 0, 0, best);
         return best;
     }
 
@@ -604,7 +603,7 @@ final class Model {
             }
             return;
         }
-        for (int i = from; i < agents.size(); i++) tryTaken(more - 1, i + 1, set | 1 << i, best);
+        for (int i = from; i < walkers.size(); i++) tryTaken(more - 1, i + 1, set | 1 << i, best);
     }
 
     // ---- The book ----

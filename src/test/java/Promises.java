@@ -1234,15 +1234,83 @@ public final class Promises {
         due("chain", x.chain(1, 0, 0), -1);
         promise = 21;
         due("met", x.met(0, 1), -1);
+        due("met", x.met(1, 0), -1);
+        promise = 19;
+        due("has", x.has(0, 0), 0);
+        due("has", x.has(1, 0), -1);
+        promise = 22;
+        due("ended", x.ended(1), -1);
+        promise = 23;
+        due("deeds", x.deeds(0), 0);
+        due("deeds", x.deeds(1), -1);
         promise = 20;
         due("left", x.left(2), 0);
+        promise = 26;
+        for (int k = 1; k <= 3; k++) due("falls", x.falls(k), 1);
+        promise = 27;
+        for (int k = 1; k <= 3; k++) due("fallen", x.fallen(k), 1);
         promise = 15;
         x.run(0);
         due("where", x.where(1, 0), 1);
         due("knows", x.knows(1, 0), 0);
+        due("has", x.has(1, 0), 0);
+        due("deeds", x.deeds(1), 0);
+        due("falls", x.falls(2), 2);
+        due("fallen", x.fallen(2), 3);
         // A run that is not done leaves the latest one.
         x.give(0, -1);
         due("run", x.run(9), -1);
         due("where", x.where(1, 95), 1);
+        emptyRun();
+        laterMeeting();
+    }
+
+    /** A run ahead of all agents has none of them, however many come. */
+    private static void emptyRun() {
+        HushNet x = new HushNet();
+        x.run(0);
+        x.spot();
+        for (int i = 0; i < 8; i++) x.agent(0, 255);
+        promise = 19;
+        for (int i = 0; i < 8; i++) due("has", x.has(i, 7), -1);
+        promise = 23;
+        for (int i = 0; i < 8; i++) due("deeds", x.deeds(i), -1);
+        for (int k = 1; k <= 3; k++) {
+            promise = 26;
+            due("falls", x.falls(k), 0);
+            promise = 27;
+            due("fallen", x.fallen(k), 0);
+        }
+        promise = 26;
+        due("falls", x.falls(0), -1);
+        due("falls", x.falls(4), -1);
+        promise = 27;
+        due("fallen", x.fallen(4), -1);
+        promise = 24;
+        due("saws", x.saws(), 0);
+    }
+
+    /** Of two that met, and one that came later, only the two can be taken. */
+    private static void laterMeeting() {
+        HushNet x = play(line(1, 1), new int[] {0, 0}, new int[] {0, 0}, "code a meet 1 for 9 end end code b meet 0 for 9 end end");
+        x.agent(0, 0);
+        promise = 26;
+        due("falls", x.falls(1), 2);
+        due("falls", x.falls(2), 2);
+        due("falls", x.falls(3), 2);
+        promise = 27;
+        due("fallen", x.fallen(1), 1);
+        due("fallen", x.fallen(2), 3);
+        due("fallen", x.fallen(3), 3);
+        promise = 23;
+        due("deeds", x.deeds(1), 1);
+        due("deeds", x.deeds(2), -1);
+        // The next run has it, too.
+        x.run(0);
+        promise = 26;
+        due("falls", x.falls(2), 3);
+        promise = 27;
+        due("fallen", x.fallen(2), 5);
+        due("fallen", x.fallen(3), 7);
     }
 }
