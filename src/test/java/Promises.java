@@ -1,23 +1,5 @@
-import java.util.NoSuchElementException;
-
 /** The document's edges, promise by promise. */
-public final class Promises {
-    private static int wrong;
-    private static int checks;
-    private static int promise;
-
-    private static void due(String what, long got, long want) {
-        checks++;
-        if (got != want) {
-            wrong++;
-            System.out.println("promise " + promise + ": " + what + " answered " + got + ", due is " + want);
-        }
-    }
-
-    private static void due(String what, boolean got, boolean want) {
-        due(what, got ? 1 : 0, want ? 1 : 0);
-    }
-
+public final class Promises extends Kit {
     public static void main(String[] args) {
         newObject();
         tape();
@@ -46,81 +28,16 @@ public final class Promises {
         feedings();
         counts();
         lateOnes();
-        System.out.println("Promises: " + checks + " answers, " + wrong + " wrong");
-        if (wrong != 0) System.exit(1);
+        finish("Promises");
     }
 
-    // ---- Helpers ----
-    private static void feed(HushNet x, String text) {
-        int pad = (20 - text.length() % 20) % 20;
-        StringBuilder all = new StringBuilder(text);
-        for (int i = 0; i < pad; i++) all.append(' ');
-        for (int i = 0; i < all.length(); i += 20) {
-            int[] v = new int[5];
-            for (int k = 0; k < 20; k++) v[k / 4] = v[k / 4] << 8 | all.charAt(i + k) & 255;
-            x.feed(v[0], v[1], v[2], v[3], v[4]);
-        }
-        x.back(pad);
-    }
-
-    private static int read(HushNet x, String text) {
-        feed(x, text);
-        return x.read();
-    }
-
-    /** A text's fault times 10000 and its place. */
-    private static long fault(String text) {
-        HushNet x = new HushNet();
-        long kind = read(x, text);
-        return kind * 10000 + x.place();
-    }
-
-    private static void faulty(String text, int kind, int place) {
-        due("read() of '" + text + "'", fault(text), kind * 10000L + place);
-    }
-
-    private static void sound(String text) {
-        due("read() of '" + text + "'", fault(text), -1);
-    }
-
-    /** Spots in a row, ways of one length between neighbours. */
-    private static HushNet line(int spots, int length) {
-        HushNet x = new HushNet();
-        for (int i = 0; i < spots; i++) x.spot();
-        for (int i = 0; i + 1 < spots; i++) x.way(i, i + 1, length);
-        return x;
-    }
-
-    /** Agent i at spot places[i] with secrets[i] and the i-th code of the text; run by no fact. */
-    private static HushNet play(HushNet x, int[] places, int[] secrets, String text) {
-        for (int i = 0; i < places.length; i++) x.agent(places[i], secrets[i]);
-        due("read() of '" + text + "'", read(x, text), 0);
-        for (int i = 0; i < places.length; i++) due("give", x.give(i, i), true);
-        x.run(0);
-        return x;
-    }
-
-    private static HushNet alone(String deeds) {
-        return play(line(2, 1), new int[] {0}, new int[] {1}, "code a " + deeds + " end");
-    }
-
-    private static long sawOf(HushNet x, int i) {
-        try {
-            return x.saw(i);
-        } catch (NoSuchElementException e) {
-            return -7;
-        }
-    }
-
-    private static String times(String part, int n) {
-        StringBuilder all = new StringBuilder();
-        for (int i = 0; i < n; i++) all.append(part);
-        return all.toString();
+    private static void promise(int number) {
+        says("promise " + number);
     }
 
     // ---- Promises ----
     private static void newObject() {
-        promise = 1;
+        promise(1);
         HushNet x = new HushNet();
         for (int i = 0; i < 6; i++) due("count", x.count(i), 0);
         due("NONE", HushNet.NONE, -1);
@@ -145,7 +62,7 @@ public final class Promises {
     }
 
     private static void tape() {
-        promise = 2;
+        promise(2);
         HushNet x = new HushNet();
         for (int i = 1; i <= 99; i++) due("feed", x.feed(0x20202020, 0x20202020, 0x20202020, 0x20202020, 0x20202020), 20 * i);
         due("back", x.back(1), 1979);
@@ -155,7 +72,7 @@ public final class Promises {
         due("back", x.back(19), 1980);
         due("feed", x.feed(0x20202020, 0x20202020, 0x20202020, 0x20202020, 0x20202020), 2000);
         due("feed", x.feed(0, 0, 0, 0, 0), -1);
-        promise = 3;
+        promise(3);
         due("back", x.back(2001), -1);
         due("back", x.back(-1), -1);
         due("back", x.back(Integer.MIN_VALUE), -1);
@@ -167,13 +84,13 @@ public final class Promises {
         due("back", x.back(0), 0);
         due("back", x.back(1), -1);
         // What was taken back is gone, and what comes next stands in its place.
-        promise = 3;
+        promise(3);
         feed(x, "code a end wait 3;");
         x.back(8);
         feed(x, " code b end");
         due("read", x.read(), 0);
         due("count", x.count(3), 2);
-        promise = 2;
+        promise(2);
         // The highest byte first; a byte of 255 is no token.
         x.feed(0x636f6465, 0x20612065, 0x6e64ff20, 0x20202020, 0x20202020);
         due("read", x.read(), 1);
@@ -181,7 +98,7 @@ public final class Promises {
     }
 
     private static void syntax() {
-        promise = 4;
+        promise(4);
         sound("");
         sound(" \t\r\n ");
         sound("code a end");
@@ -189,7 +106,7 @@ public final class Promises {
         sound("code abcdefgh go1;wait02;till 3;abort;loop 0 end if not not watched else end meet 7for 95else end end");
         sound("code a if with 7 end if late 95 end if mark 3 end if paper 7 end if knows 7 end if has 7 end end");
         sound("code a write 7; leave 7; take 7; burn 7; tell 7; mark 3; wipe 3; go 9; wait 95; till 95; loop 95 end end");
-        promise = 5;
+        promise(5);
         faulty("code", 1, 4);
         faulty("code ", 1, 5);
         faulty("code a", 1, 6);
@@ -244,7 +161,7 @@ public final class Promises {
     }
 
     private static void room() {
-        promise = 4;
+        promise(4);
         // 8 codes; the 9th at its first token.
         String eight = "code a end code b end code c end code d end code e end code f end code g end code h end";
         sound(eight);
@@ -282,7 +199,7 @@ public final class Promises {
     }
 
     private static void laterFaults() {
-        promise = 4;
+        promise(4);
         faulty("code a end code a end", 3, 16);
         faulty("code a do a; end", 4, 10);
         faulty("code a do b; end code b end", 4, 10);
@@ -315,25 +232,25 @@ public final class Promises {
     }
 
     private static void readInPlace() {
-        promise = 4;
+        promise(4);
         HushNet x = line(2, 1);
         x.agent(0, 0);
         due("read", read(x, "code a go 1; end code b end"), 0);
         due("codes", x.count(3), 2);
         x.give(0, 0);
         due("read", read(x, "code a go 1 end"), 1);
-        promise = 5;
+        promise(5);
         due("place", x.place(), 12);
-        promise = 4;
+        promise(4);
         due("codes", x.count(3), 2);
         due("tape", x.count(5), 0);
         x.run(0);
         due("where", x.where(0, 1), 1);
         // Text in place of the codes ahead: nobody has one.
         due("read", x.read(), 0);
-        promise = 5;
+        promise(5);
         due("place", x.place(), -1);
-        promise = 4;
+        promise(4);
         due("codes", x.count(3), 0);
         x.run(0);
         due("where", x.where(0, 1), 0);
@@ -352,12 +269,12 @@ public final class Promises {
     }
 
     private static void townAndAgents() {
-        promise = 6;
+        promise(6);
         HushNet x = new HushNet();
         for (int i = 0; i < 10; i++) due("spot", x.spot(), i);
         due("spot", x.spot(), -1);
         due("count", x.count(0), 10);
-        promise = 7;
+        promise(7);
         due("way", x.way(0, 0, 1), -1);
         due("way", x.way(-1, 0, 1), -1);
         due("way", x.way(0, 10, 1), -1);
@@ -368,7 +285,7 @@ public final class Promises {
         due("way", x.way(0, 1, 1), -1);
         due("count", x.count(1), 24);
         due("distance", x.distance(0, 1), 9);
-        promise = 8;
+        promise(8);
         due("agent", x.agent(10, 0), -1);
         due("agent", x.agent(-1, 0), -1);
         due("agent", x.agent(0, 256), -1);
@@ -385,7 +302,7 @@ public final class Promises {
     }
 
     private static void gives() {
-        promise = 9;
+        promise(9);
         HushNet x = line(2, 1);
         x.agent(0, 0);
         due("give", x.give(0, -1), true);
@@ -406,7 +323,7 @@ public final class Promises {
     private static void facts() {
         HushNet x = line(2, 1);
         x.agent(0, 0);
-        promise = 10;
+        promise(10);
         due("post", x.post(0, 2, 0, 1), -1);
         due("post", x.post(0, -1, 0, 1), -1);
         due("post", x.post(-1, 0, 0, 1), -1);
@@ -425,7 +342,7 @@ public final class Promises {
         due("post", x.post(3, 1, 20, 96), 1);
         due("post", x.post(3, 1, 0, 10), 2);
         due("post", x.post(2, 0, 0, 96), 3);
-        promise = 11;
+        promise(11);
         due("sight", x.sight(1, 0, 0), -1);
         due("sight", x.sight(-1, 0, 0), -1);
         due("sight", x.sight(0, 2, 0), -1);
@@ -433,13 +350,13 @@ public final class Promises {
         due("sight", x.sight(0, 0, -1), -1);
         due("sight", x.sight(0, 0, 96), -1);
         due("sight", x.sight(0, 1, 95), 4);
-        promise = 12;
+        promise(12);
         due("turned", x.turned(1, 0), -1);
         due("turned", x.turned(-1, 0), -1);
         due("turned", x.turned(0, 96), -1);
         due("turned", x.turned(0, -1), -1);
         due("turned", x.turned(0, 95), 5);
-        promise = 13;
+        promise(13);
         due("strike", x.strike(6), -1);
         due("strike", x.strike(-1), -1);
         due("strike", x.strike(0), 6);
@@ -448,23 +365,23 @@ public final class Promises {
         due("strike", x.strike(4), 7);
         due("strike", x.strike(5), 8);
         due("strike", x.strike(0), 9);
-        promise = 10;
+        promise(10);
         due("post", x.post(3, 1, 10, 20), 10);
         due("post", x.post(3, 0, 10, 20), -1);
         due("count", x.count(4), 11);
         for (int i = 11; i < 150; i++) due("sight", x.sight(0, 0, i % 96), i);
         due("post", x.post(1, 0, 0, 1), -1);
-        promise = 11;
+        promise(11);
         due("sight", x.sight(0, 0, 0), -1);
-        promise = 12;
+        promise(12);
         due("turned", x.turned(0, 0), -1);
-        promise = 13;
+        promise(13);
         due("strike", x.strike(10), -1);
         due("count", x.count(4), 150);
     }
 
     private static void distances() {
-        promise = 14;
+        promise(14);
         HushNet x = new HushNet();
         for (int i = 0; i < 5; i++) x.spot();
         due("distance", x.distance(0, 1), -1);
@@ -486,13 +403,13 @@ public final class Promises {
     }
 
     private static void runs() {
-        promise = 15;
+        promise(15);
         HushNet x = line(1, 1);
         due("run", x.run(-1), -1);
         due("run", x.run(1), -1);
-        promise = 24;
+        promise(24);
         due("saws", x.saws(), -1);
-        promise = 15;
+        promise(15);
         due("run", x.run(0), 0);
         x = play(line(1, 1), new int[] {0, 0, 0}, new int[] {3, 0, 4},
                 "code a meet 1 for 5 tell 0; tell 1; tell 0; end end code b meet 0 for 5 end meet 2 for 5 tell 1; tell 0; tell 2; end end"
@@ -505,10 +422,10 @@ public final class Promises {
     }
 
     private static void fortyDeeds() {
-        promise = 23;
+        promise(23);
         HushNet x = alone("loop 40 end");
         due("deeds", x.deeds(0), 40);
-        promise = 22;
+        promise(22);
         due("ended", x.ended(0), 0);
         x = alone("loop 41 end");
         due("deeds", x.deeds(0), 41);
@@ -536,7 +453,7 @@ public final class Promises {
         due("ended", x.ended(0), 0);
         due("deeds", x.deeds(1), -1);
         due("deeds", x.deeds(-1), -1);
-        promise = 22;
+        promise(22);
         due("ended", x.ended(1), -1);
         due("ended", x.ended(-1), -1);
         // As deep as can be: eight codes within one another, six loops within each.
@@ -561,7 +478,7 @@ public final class Promises {
     }
 
     private static void goings() {
-        promise = 16;
+        promise(16);
         HushNet x = play(line(3, 2), new int[] {0}, new int[] {0}, "code a go 0; go 9; go 2; go 1; end");
         int[] row = {0, -1, 1, -1, 2, -1, 1, 1};
         for (int t = 0; t < row.length; t++) due("where " + t, x.where(0, t), row[t]);
@@ -603,7 +520,7 @@ public final class Promises {
     }
 
     private static void waits() {
-        promise = 22;
+        promise(22);
         due("ended", alone("wait 5;").ended(0), 5);
         due("ended", alone("wait 95;").ended(0), 95);
         due("ended", alone("wait 1; wait 95;").ended(0), -1);
@@ -617,7 +534,7 @@ public final class Promises {
     }
 
     private static void meets() {
-        promise = 21;
+        promise(21);
         // The one that comes second goes on at once; the first in this tick if its turn is still to come, else in the next.
         HushNet x = play(line(1, 1), new int[] {0, 0}, new int[] {0, 0},
                 "code a meet 1 for 9 mark 0; end end code b wait 2; meet 0 for 9 mark 1; end end");
@@ -684,7 +601,7 @@ public final class Promises {
     }
 
     private static void tales() {
-        promise = 17;
+        promise(17);
         HushNet x = play(line(2, 1), new int[] {0, 0, 0}, new int[] {1, 0, 2},
                 "code a meet 1 for 9 tell 0; end end code b meet 0 for 9 wait 1; meet 2 for 9 tell 0; end end end"
                         + " code c meet 1 for 9 go 1; end end");
@@ -697,7 +614,7 @@ public final class Promises {
         due("knows", x.knows(-1, 0), -1);
         due("knows", x.knows(0, -1), -1);
         due("knows", x.knows(0, 8), -1);
-        promise = 18;
+        promise(18);
         due("chain", x.chain(2, 0, 0), 2);
         due("chain", x.chain(2, 0, 1), 1);
         due("chain", x.chain(2, 0, 2), 0);
@@ -709,7 +626,7 @@ public final class Promises {
         due("chain", x.chain(0, 8, 0), -1);
         due("chain", x.chain(0, 0, 0), 0);
         due("chain", x.chain(0, 0, 1), -1);
-        promise = 17;
+        promise(17);
         // Nothing is told outside, in the else deeds, or by whom does not know.
         x = play(line(1, 1), new int[] {0, 0}, new int[] {1, 0},
                 "code a tell 0; meet 1 for 3 tell 1; end tell 0; meet 1 for 2 else tell 0; end end code b meet 0 for 3 end end");
@@ -742,7 +659,7 @@ public final class Promises {
     }
 
     private static void papers() {
-        promise = 19;
+        promise(19);
         HushNet x = play(line(2, 1), new int[] {0, 0, 0}, new int[] {1, 0, 1},
                 "code a write 0; write 1; leave 0; leave 0; write 0; end code b wait 1; take 0; take 1; end"
                         + " code c write 0; leave 0; end");
@@ -755,11 +672,11 @@ public final class Promises {
         due("has", x.has(-1, 0), -1);
         due("has", x.has(0, 8), -1);
         due("has", x.has(0, -1), -1);
-        promise = 18;
+        promise(18);
         // The paper that lies there is the last one left.
         due("chain", x.chain(1, 0, 1), 2);
         due("knows", x.knows(1, 0), 1);
-        promise = 20;
+        promise(20);
         due("left", x.left(0), 0);
         x = alone("write 0; leave 0; mark 0; mark 3; wipe 0; wipe 1; go 1; write 0; leave 0; write 0;");
         due("left", x.left(0), 8 + 16);
@@ -774,14 +691,14 @@ public final class Promises {
         due("left", x.left(0), 8 + (1 << 11));
         due("has", x.has(0, 6), 1);
         due("has", x.has(0, 7), 0);
-        promise = 19;
+        promise(19);
         x = play(line(1, 1), new int[] {0, 0}, new int[] {64, 0}, "code a write 6; leave 6; end code b take 6; take 6; end");
         due("has", x.has(1, 6), 1);
         due("has", x.has(1, 0), 0);
         due("has", x.has(0, 6), 0);
         due("knows", x.knows(1, 6), 0);
         due("chain", x.chain(1, 6, 1), 0);
-        promise = 18;
+        promise(18);
         // One that took its own paper learned nothing by it.
         x = alone("write 0; leave 0; take 0;");
         due("run", x.run(0), 0);
@@ -789,7 +706,7 @@ public final class Promises {
     }
 
     private static void tests() {
-        promise = 20;
+        promise(20);
         HushNet x = play(line(2, 1), new int[] {0}, new int[] {1},
                 "code a if knows 0 mark 0; end if knows 1 mark 1; end if not has 0 mark 2; end write 0; if has 0 mark 3; end end");
         due("left", x.left(0), 1 + 4 + 8);
@@ -826,18 +743,18 @@ public final class Promises {
     }
 
     private static void saws() {
-        promise = 24;
+        promise(24);
         HushNet x = play(line(3, 2), new int[] {0, 1}, new int[] {0, 0}, "code a go 2; end code b wait 1; end");
         due("saws", x.saws(), 0);
-        promise = 25;
+        promise(25);
         due("saw", sawOf(x, 0), -7);
-        promise = 24;
+        promise(24);
         x.post(0, 1, 1, 4);
         x.post(1, 1, 2, 3);
         x.post(2, 0, 0, 1);
         x.run(3);
         due("saws", x.saws(), 5);
-        promise = 25;
+        promise(25);
         due("saw", sawOf(x, 0), 0);
         due("saw", sawOf(x, 1), 1011);
         due("saw", sawOf(x, 2), 2001);
@@ -858,7 +775,7 @@ public final class Promises {
     }
 
     private static void falls() {
-        promise = 26;
+        promise(26);
         HushNet x = play(line(1, 1), new int[] {0, 0, 0, 0, 0}, new int[] {0, 0, 0, 0, 0},
                 "code a end code b meet 2 for 9 end end code c meet 1 for 9 end meet 3 for 9 end end code d meet 2 for 9 end end code e end");
         due("falls", x.falls(1), 3);
@@ -871,7 +788,7 @@ public final class Promises {
         x = play(line(1, 1), new int[] {0, 0, 0}, new int[] {0, 0, 0},
                 "code a meet 2 for 9 end end code b meet 2 for 9 end end code c meet 0 for 9 end meet 1 for 9 end end");
         due("falls", x.falls(1), 3);
-        promise = 27;
+        promise(27);
         // In a ring 0 4 1 6 3 7 2 5 six fall by {1, 2} and by {0, 3}, five by {0, 1} and by {0, 2}.
         int[] none = new int[8];
         x = play(line(1, 1), none, none, ringText());
@@ -912,7 +829,7 @@ public final class Promises {
     }
 
     private static void struckOnes() {
-        promise = 28;
+        promise(28);
         HushNet x = line(1, 1);
         x.agent(0, 0);
         x.sight(0, 0, 0);
@@ -931,7 +848,7 @@ public final class Promises {
     }
 
     private static void rows() {
-        promise = 29;
+        promise(29);
         HushNet x = line(3, 4);
         x.agent(0, 0);
         due("canBe", x.canBe(0, 2, 0, 0), 1);
@@ -960,7 +877,7 @@ public final class Promises {
         x.agent(0, 0);
         x.post(0, 0, 1, 96);
         x.post(1, 1, 0, 94);
-        promise = 30;
+        promise(30);
         due("fits", x.fits(0, 2), 0);
         due("fits", x.fits(0, 1), 1);
         due("fits", x.fits(0, 0), 1);
@@ -975,7 +892,7 @@ public final class Promises {
         due("canBe", x.canBe(0, 0, 0, x.count(4)), 0);
         x.sight(0, 1, 93);
         due("fits", x.fits(0, x.count(4)), 1);
-        promise = 29;
+        promise(29);
         due("canBe", x.canBe(0, 0, 0, x.count(4)), 1);
         due("canBe", x.canBe(0, 1, 0, x.count(4)), 0);
         due("canBe", x.canBe(0, 1, 93, x.count(4)), 1);
@@ -988,7 +905,7 @@ public final class Promises {
         due("fits", x.fits(0, 1), 1);
         x.strike(0);
         due("fits", x.fits(0, 3), 1);
-        promise = 29;
+        promise(29);
         due("canBe", x.canBe(0, 1, 5, 3), 1);
         due("canBe", x.canBe(0, 0, 5, 3), 0);
         // Begun at tick 93 over a way of 3: on it at the end, so that no spot is needed at 94 and 95.
@@ -1025,7 +942,7 @@ public final class Promises {
     }
 
     private static void words() {
-        promise = 31;
+        promise(31);
         HushNet x = hunted();
         int n = x.count(4);
         due("could", x.could(1, 0, 95, false, n), 7);
@@ -1046,7 +963,7 @@ public final class Promises {
         due("could", x.could(-1, 5, 95, true, n), -1);
         due("could", x.could(1, 5, 95, true, n + 1), -1);
         due("could", x.could(1, 5, 95, true, -1), -1);
-        promise = 32;
+        promise(32);
         due("since", x.since(1, 1, 0, false, n), 14);
         due("since", x.since(2, 1, 0, false, n), 0);
         due("since", x.since(2, 1, 11, false, n), -1);
@@ -1076,7 +993,7 @@ public final class Promises {
         due("since", x.since(1, 1, 6, true, n), -1);
         due("since", x.since(1, 1, 0, true, n), 0);
         staying();
-        promise = 31;
+        promise(31);
         due("could", x.could(1, 5, 95, false, n), 1);
         due("could", x.could(1, 5, 5, true, n), 1);
         due("could", x.could(1, 5, 6, true, n), 3);
@@ -1093,7 +1010,7 @@ public final class Promises {
             x.sight(2, t == 25 ? 1 : 2, t);
         }
         int n = x.count(4);
-        promise = 32;
+        promise(32);
         due("since", x.since(0, 1, 11, false, n), 11);
         due("since", x.since(1, 1, 11, false, n), 20);
         due("since", x.since(2, 1, 11, false, n), 25);
@@ -1117,7 +1034,7 @@ public final class Promises {
     }
 
     private static void touchedOnes() {
-        promise = 33;
+        promise(33);
         HushNet x = line(2, 1);
         x.agent(0, 0);
         x.agent(0, 0);
@@ -1149,33 +1066,33 @@ public final class Promises {
     }
 
     private static void feedings() {
-        promise = 34;
+        promise(34);
         HushNet x = hunted();
         int n = x.count(4);
         due("fed", x.fed(7, 3, 11, 13, false, n), 1);
-        promise = 35;
+        promise(35);
         due("word", x.word(0), 0);
         due("word", x.word(1), 1);
-        promise = 34;
+        promise(34);
         // Alone, by tick 13: agent 0 reaches nobody, agent 1 and agent 2 nobody; with one word all three are in doubt.
         due("fed", x.fed(7, 1, 11, 13, false, n), 3);
-        promise = 36;
+        promise(36);
         due("doubt", x.doubt(0), 3);
         due("doubt", x.doubt(1), -1);
-        promise = 34;
+        promise(34);
         due("fed", x.fed(7, 2, 11, 13, false, n), 2);
-        promise = 35;
+        promise(35);
         due("word", x.word(0), 0);
         due("word", x.word(1), 0);
         due("word", x.word(2), 1);
         due("word", x.word(3), -1);
         due("word", x.word(-1), -1);
-        promise = 36;
+        promise(36);
         due("doubt", x.doubt(0), 2);
         due("doubt", x.doubt(1), 1);
         due("doubt", x.doubt(2), -1);
         due("doubt", x.doubt(-1), -1);
-        promise = 34;
+        promise(34);
         // What is NONE changes nothing.
         due("fed", x.fed(0, 2, 11, 13, false, n), -1);
         due("fed", x.fed(8, 2, 11, 13, false, n), -1);
@@ -1204,7 +1121,7 @@ public final class Promises {
     }
 
     private static void counts() {
-        promise = 37;
+        promise(37);
         HushNet x = line(3, 1);
         x.agent(0, 0);
         feed(x, "code a end");
@@ -1226,30 +1143,30 @@ public final class Promises {
         x.run(0);
         x.agent(1, 255);
         x.spot();
-        promise = 16;
+        promise(16);
         due("where", x.where(1, 0), -1);
-        promise = 17;
+        promise(17);
         due("knows", x.knows(1, 0), -1);
-        promise = 18;
+        promise(18);
         due("chain", x.chain(1, 0, 0), -1);
-        promise = 21;
+        promise(21);
         due("met", x.met(0, 1), -1);
         due("met", x.met(1, 0), -1);
-        promise = 19;
+        promise(19);
         due("has", x.has(0, 0), 0);
         due("has", x.has(1, 0), -1);
-        promise = 22;
+        promise(22);
         due("ended", x.ended(1), -1);
-        promise = 23;
+        promise(23);
         due("deeds", x.deeds(0), 0);
         due("deeds", x.deeds(1), -1);
-        promise = 20;
+        promise(20);
         due("left", x.left(2), 0);
-        promise = 26;
+        promise(26);
         for (int k = 1; k <= 3; k++) due("falls", x.falls(k), 1);
-        promise = 27;
+        promise(27);
         for (int k = 1; k <= 3; k++) due("fallen", x.fallen(k), 1);
-        promise = 15;
+        promise(15);
         x.run(0);
         due("where", x.where(1, 0), 1);
         due("knows", x.knows(1, 0), 0);
@@ -1271,22 +1188,22 @@ public final class Promises {
         x.run(0);
         x.spot();
         for (int i = 0; i < 8; i++) x.agent(0, 255);
-        promise = 19;
+        promise(19);
         for (int i = 0; i < 8; i++) due("has", x.has(i, 7), -1);
-        promise = 23;
+        promise(23);
         for (int i = 0; i < 8; i++) due("deeds", x.deeds(i), -1);
         for (int k = 1; k <= 3; k++) {
-            promise = 26;
+            promise(26);
             due("falls", x.falls(k), 0);
-            promise = 27;
+            promise(27);
             due("fallen", x.fallen(k), 0);
         }
-        promise = 26;
+        promise(26);
         due("falls", x.falls(0), -1);
         due("falls", x.falls(4), -1);
-        promise = 27;
+        promise(27);
         due("fallen", x.fallen(4), -1);
-        promise = 24;
+        promise(24);
         due("saws", x.saws(), 0);
     }
 
@@ -1294,22 +1211,22 @@ public final class Promises {
     private static void laterMeeting() {
         HushNet x = play(line(1, 1), new int[] {0, 0}, new int[] {0, 0}, "code a meet 1 for 9 end end code b meet 0 for 9 end end");
         x.agent(0, 0);
-        promise = 26;
+        promise(26);
         due("falls", x.falls(1), 2);
         due("falls", x.falls(2), 2);
         due("falls", x.falls(3), 2);
-        promise = 27;
+        promise(27);
         due("fallen", x.fallen(1), 1);
         due("fallen", x.fallen(2), 3);
         due("fallen", x.fallen(3), 3);
-        promise = 23;
+        promise(23);
         due("deeds", x.deeds(1), 1);
         due("deeds", x.deeds(2), -1);
         // The next run has it, too.
         x.run(0);
-        promise = 26;
+        promise(26);
         due("falls", x.falls(2), 3);
-        promise = 27;
+        promise(27);
         due("fallen", x.fallen(2), 5);
         due("fallen", x.fallen(3), 7);
     }
