@@ -28,6 +28,7 @@ public final class BookEdges extends Kit {
         struckNone();
         canBeAtAnySpotFirst();
         canBeAfterAWay();
+        canBeByTheLastWay();
         canBeOnAWayAtTheEnd();
         canBeJustThere();
         canBeAtNoPost();
@@ -354,6 +355,20 @@ public final class BookEdges extends Kit {
             // Not on two ways at once, and both ways.
             due("canBe back", x.canBe(0, 0, 40 + 2 * length, 1), 1);
         }
+    }
+
+    private static void canBeByTheLastWay() {
+        says("Terms: WAYS, 24 at most (by the 24th, too)");
+        HushNet x = apart(10, 2);
+        for (int i = 0; i < 23; i++) due("way", x.way(0, 1, 9), i);
+        due("way", x.way(9, 8, 1), 23);
+        x.sight(0, 9, 20);
+        x.sight(1, 8, 20);
+        x.post(0, 9, 21, 96);
+        due("canBe", x.canBe(0, 8, 20, 3), 0);
+        due("canBe", x.canBe(0, 8, 21, 3), 1);
+        due("since", x.since(1, 1, 20, false, 3), 21);
+        due("canBe", x.canBe(0, 9, 95, 1), 1);
     }
 
     private static void canBeOnAWayAtTheEnd() {

@@ -35,6 +35,7 @@ public final class TownEdges extends Kit {
         farthestDistance();
         shortestOfTwoWays();
         shorterByAnotherSpot();
+        waysElsewhere();
         leastNextSpot();
         leastNextSpotFromThere();
         shortestWayToNextSpot();
@@ -120,6 +121,10 @@ public final class TownEdges extends Kit {
         due("agent", x.agent(10, 0), -1);
         due("distance", x.distance(9, 9), 0);
         due("distance", x.distance(10, 10), -1);
+        due("distance", x.distance(10, 0), -1);
+        due("distance", x.distance(0, 10), -1);
+        due("way", x.way(9, 10, 1), -1);
+        due("way", x.way(9, 8, 1), 0);
     }
 
     private static void waysFromZero() {
@@ -421,6 +426,18 @@ public final class TownEdges extends Kit {
         x.run(0);
         due("where", x.where(0, 4), -1);
         due("where", x.where(0, 7), 2);
+    }
+
+    private static void waysElsewhere() {
+        says("Terms: the least LENGTH of all its WAYS together (of those that begin there)");
+        HushNet x = new HushNet();
+        for (int i = 0; i < 5; i++) x.spot();
+        x.way(3, 4, 1);
+        x.way(0, 2, 2);
+        x.way(2, 1, 3);
+        play(x, new int[] {1}, new int[] {0}, codes("go 2; wait 1; go 0;"));
+        int[] row = {1, -1, -1, 2, 2, -1, 0, 0};
+        for (int t = 0; t < row.length; t++) due("where " + t, x.where(0, t), row[t]);
     }
 
     private static void leastNextSpot() {
